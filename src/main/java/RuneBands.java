@@ -657,7 +657,7 @@ public final class RuneBands {
         private int next;
 
         History() {
-            for (int place = 0; place < MAX_SAVED; place++) {
+            for (int place = 0; place < stones.length && place < lists.length; place++) {
                 stones[place] = new Stone();
                 lists[place] = new Words();
             }
@@ -826,11 +826,12 @@ public final class RuneBands {
             put(turns, gate, at(turns, gate) + (isCorner(value) ? 1 : 0));
             put(runes, gate, at(runes, gate) + (isRune(value) ? 1 : 0));
             long mask = at(once, gate);
-            put(twice, gate, at(twice, gate) | mask & 1L << cell);
-            put(once, gate, mask | 1L << cell);
+            long bit = 1L << cell;
+            put(twice, gate, at(twice, gate) | (mask & bit));
+            put(once, gate, mask | bit);
         }
 
-        /** Goes the way again, since a band is known to bear its gate's number at its end only. */
+        /** Goes the way once more: only at its end is it known whose number the band has. */
         private void countBand(Stone stone, int gate) {
             count++;
             crossing += crossesItself(gate) ? 1 : 0;
@@ -852,7 +853,7 @@ public final class RuneBands {
         }
 
         int bandFrom(int gate) {
-            int end = endOf(gate);
+            int end = at(ends, gate);
             return end == NONE ? gate : Math.min(gate, end);
         }
 
@@ -965,6 +966,8 @@ public final class RuneBands {
     /** The search for choices. */
     private static final class Search {
         private final long[] runesOf = new long[MAX_GATES];
+        private final int[] lowerBands = new int[MAX_CELLS];
+        private final int[] higherBands = new int[MAX_CELLS];
         private final int[] picked = new int[MAX_GATES];
         private final int[] first = new int[MAX_GATES];
         private long allRunes;
@@ -984,6 +987,7 @@ public final class RuneBands {
             smallest = NONE;
             stopped = false;
             takeBands(bands);
+            pairBands(bands);
             look(this, 0, 0L);
         }
 
@@ -995,7 +999,17 @@ public final class RuneBands {
             }
         }
 
-        /** Each level reads a band that no level before it has read: there are as many at most. */
+        /** A rune lets bands go straight on: one at most enters it in its row, one in its column. */
+        private void pairBands(Bands bands) {
+            for (int cell = 0; cell < MAX_CELLS; cell++) {
+                int inRow = bands.bandInRow(cell);
+                int inColumn = bands.bandInColumn(cell);
+                put(lowerBands, cell, Math.min(inRow, inColumn));
+                put(higherBands, cell, Math.max(inRow, inColumn));
+            }
+        }
+
+        /** Each level chooses a band that no level before it has chosen, so the levels are as many as the gates at most. */
         private static void look(Search search, int depth, long runesRead) {
             if (search.looked == MAX_NODES || depth > MAX_GATES) {
                 search.stopped = true;
@@ -1008,7 +1022,9 @@ public final class RuneBands {
                 return;
             }
             long lowest = open & -open;
-            for (int band = 0; band < MAX_GATES && !search.isOver(); band++) {
+            int cell = Long.bitCount(lowest - 1L);
+            for (int turn = 0; turn < 2 && !search.isOver(); turn++) {
+                int band = at(turn == 0 ? search.lowerBands : search.higherBands, cell);
                 long runes = at(search.runesOf, band);
                 if ((runes & lowest) != 0L && (runes & runesRead) == 0L) {
                     put(search.picked, depth, band);
