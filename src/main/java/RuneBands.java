@@ -899,13 +899,15 @@ public final class RuneBands {
         }
     }
 
-    /** The bytes that a band gives from one of its gates. */
+    /** The bytes that a band gives from one of its gates: its words, with one space between each two of them. */
     private static final class Reading {
         private final int[] bytes = new int[MAX_READING];
         private int length;
+        private boolean gapBefore;
 
         void take(Stone stone, Bands bands, int gate) {
             length = 0;
+            gapBefore = false;
             for (int index = 0; index < bands.lengthOf(gate); index++) {
                 takeCell(stone.byteAt(bands.cellAt(gate, index)));
             }
@@ -913,15 +915,24 @@ public final class RuneBands {
 
         private void takeCell(int value) {
             if (isLetter(value)) {
-                add(value);
+                addLetter(value);
             } else if (isSharedRune(value)) {
                 int letter = value - 'A' + 'a';
-                add(letter);
-                add(GAP);
-                add(letter);
+                addLetter(letter);
+                gapBefore = true;
+                addLetter(letter);
             } else if (value == STOP) {
+                gapBefore = true;
+            }
+        }
+
+        /** A gap's space comes only with the letter behind it: a gap that has no word on one side is not between words. */
+        private void addLetter(int letter) {
+            if (gapBefore && length > 0) {
                 add(GAP);
             }
+            gapBefore = false;
+            add(letter);
         }
 
         private void add(int value) {

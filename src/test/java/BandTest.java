@@ -131,7 +131,7 @@ public final class BandTest {
         Check.sameText("from the left", Stones.reading(stone, 9), "ab bc");
         Check.sameText("from the right", Stones.reading(stone, 3), "cb ba");
         Check.sameText("from above", Stones.reading(stone, 1), "b bde");
-        Check.sameText("into the broken corner", Stones.reading(stone, 2), "c ");
+        Check.sameText("into the broken corner", Stones.reading(stone, 2), "c");
         Check.sameText("no rune", Stones.reading(stone, 5), "");
         Check.sameText("round a corner", Stones.reading(stone, 11), "a");
         Check.same("the first byte behind", stone.read(9, 5), RuneBands.NONE);
@@ -143,13 +143,27 @@ public final class BandTest {
         Check.sameText("a rune that is entered twice", Stones.reading(Stones.of("./\\|.a/|..."), 10), "aa");
     }
 
-    /** A stop is a gap, so is the middle of a shared rune: one space for each of them, wherever it stands. */
+    /** One space between each two words, however many stops stand there; none at the beginning and at the end. */
     private static void gaps() {
         RuneBands stone = Stones.of(":a::B:|::.:::");
-        Check.sameText("from the left", Stones.reading(stone, 14), " a  b b ");
-        Check.sameText("from the right", Stones.reading(stone, 6), " b b  a ");
-        Check.sameText("gaps alone", Stones.reading(stone, 15), "     ");
+        Check.sameText("from the left", Stones.reading(stone, 14), "a b b");
+        Check.sameText("from the right", Stones.reading(stone, 6), "b b a");
+        Check.sameText("gaps alone", Stones.reading(stone, 15), "");
+        Check.same("no byte", stone.read(15, 0), RuneBands.NONE);
         Check.same("no word", stone.wordsOf(15), -1);
+        Check.sameText("a stop behind the word", Stones.reading(stone, 1), "a");
+        Check.sameText("a stop before the word", Stones.reading(stone, 9), "a");
+        Check.same("the first byte behind", stone.read(14, 5), RuneBands.NONE);
+        RuneBands turned = Stones.of("ab:.\\|..d:/|c:.:#");
+        Check.sameText("stops, a corner and empty cells between words", Stones.reading(turned, 13), "ab d");
+        Check.sameText("two stops on both sides of corners", Stones.reading(turned, 14), "d ba");
+        Check.sameText("a stop before the broken corner", Stones.reading(turned, 15), "c");
+        RuneBands again = Stones.of(":a|b.");
+        Check.sameText("a stop at the end of one reading", Stones.reading(again, 2), "a");
+        Check.sameText("leaves no gap in the next one", Stones.reading(again, 7), "b");
+        RuneBands shared = Stones.of(":A:|A.B|...");
+        Check.sameText("a shared rune between stops", Stones.reading(shared, 9), "a a");
+        Check.sameText("shared runes beside each other", Stones.reading(shared, 10), "a ab b");
     }
 
     /** Promise 14. */
@@ -205,6 +219,9 @@ public final class BandTest {
         RuneBands letters = Stones.of("aA|..");
         Check.holds("aa a is not", !letters.alike(6));
         RuneBands edge = Stones.of(":a|a.");
-        Check.holds("a gap at one end only", !edge.alike(6));
+        Check.holds("a stop at one end only", edge.alike(6));
+        RuneBands stops = Stones.of("a::a:a|.:ab::");
+        Check.holds("more stops on one side", stops.alike(14));
+        Check.holds("ab is not, stops or not", !stops.alike(15));
     }
 }

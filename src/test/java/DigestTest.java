@@ -12,6 +12,7 @@ public final class DigestTest {
         RuneBands stone = new RuneBands();
         Check.same("a new object", stone.digest(), reckoned(stone, 0, 0));
         Check.same("and the oracle", new Oracle().digest(), stone.digest());
+        Check.same("a stop at the ends of readings", Stones.of("a.c:|d/#a").digest(), -5874956497040010540L);
         for (int word = 0; word < 4; word++) {
             Stones.addWord(stone, String.valueOf((char) ('a' + word)));
         }

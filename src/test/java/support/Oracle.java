@@ -271,8 +271,9 @@ final class Oracle {
     }
 
     private String reading(int gate) {
-        return along(gate).replaceAll("[./\\\\#]", "").replace(':', ' ')
+        String withGaps = along(gate).replaceAll("[./\\\\#]", "").replace(':', ' ')
             .replaceAll("([A-Z])", "$1 $1").toLowerCase();
+        return withGaps.strip().replaceAll(" +", " ");
     }
 
     int band(int gate, int what) {
