@@ -405,11 +405,11 @@ public final class RuneBands {
     }
 
     private static boolean isLetter(int value) {
-        return isWithin(value, 'a', 'z');
+        return value >= 'a' && value <= 'z';
     }
 
     private static boolean isSharedRune(int value) {
-        return isWithin(value, 'A', 'Z');
+        return value >= 'A' && value <= 'Z';
     }
 
     private static boolean isRune(int value) {

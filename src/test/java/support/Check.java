@@ -7,31 +7,37 @@ final class Check {
 
     private static int checks = 0;
     private static int wrong = 0;
+    private static String place = "";
 
     private Check() {
     }
 
+    /** What is looked at from here on belongs to this place. */
+    static void enter(String name) {
+        place = name.isEmpty() ? "" : name + ": ";
+    }
+
+    static int made() {
+        return checks;
+    }
+
     static void same(String what, long got, long due) {
-        checks++;
-        if (got != due) {
-            wrong++;
-            System.out.println(what + " answered " + got + ", due is " + due);
-        }
+        look(what, got == due, String.valueOf(got), String.valueOf(due));
     }
 
     static void sameDouble(String what, double got, double due) {
-        checks++;
-        if (Double.doubleToLongBits(got) != Double.doubleToLongBits(due)) {
-            wrong++;
-            System.out.println(what + " answered " + got + ", due is " + due);
-        }
+        look(what, Double.doubleToLongBits(got) == Double.doubleToLongBits(due), String.valueOf(got), String.valueOf(due));
     }
 
     static void sameText(String what, String got, String due) {
+        look(what, got.equals(due), "'" + got + "'", "'" + due + "'");
+    }
+
+    private static void look(String what, boolean right, String got, String due) {
         checks++;
-        if (!got.equals(due)) {
+        if (!right) {
             wrong++;
-            System.out.println(what + " answered '" + got + "', due is '" + due + "'");
+            System.out.println(place + what + " answered " + got + ", due is " + due);
         }
     }
 
