@@ -181,6 +181,13 @@ public final class BandEdgesTest {
         facts("./\\|#./|...", 7, 7, RuneBands.NONE, 3, 7, 3, 0, 1);
     }
 
+    static void termsBandThatCrossedItselfNoLongerDoes() {
+        RuneBands stone = Stones.of(CROSSING);
+        stone.setCell(2, '.');
+        Check.same("band(7, 6)", stone.band(7, 6), 0);
+        Check.same("bands that cross themselves", stone.value(8), 0);
+    }
+
     static void termsBandThatWouldCrossItselfBehindABrokenCornerDoesNot() {
         facts("./\\|.#/|...", 7, 7, RuneBands.NONE, 4, 2, 0, 0, 0);
         facts("./#|../|...", 7, 7, RuneBands.NONE, 2, 4, 1, 0, 0);

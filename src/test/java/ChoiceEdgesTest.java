@@ -17,6 +17,9 @@ public final class ChoiceEdgesTest {
     /** The first choice is node 2000; it is far behind it. */
     private static final String FIRST_2000 = "..a\\a..|.a..#a.|..\\a##a|..a.#./|a.#..\\a|#a..\\a.|a#aaaa#";
     private static final String FIRST_BEHIND = "..a#a..|.\\.a#a.|.a..\\#a|a...#a.|##a..\\.|a#..a..|.a#aaa#";
+    /** The 50th choice has the fewest bands so far; the 51st has. */
+    private static final String FEWEST_IS_50TH = "aa.....|#.aa...|\\#..a..|a..#\\..|/.#aa..|..../..|aaa...#";
+    private static final String FEWEST_IS_51ST = "...a.a#|.a.a##a|a#..\\.a|a..###a|\\...#a.|\\..a#/\\|aa\\.\\a.";
     /** Fewer bands would do, but only behind the 50th choice; but only behind the 2000th node. */
     private static final String FEWER_BEHIND_50 = ".a.a..|#...a.|a#...a|.a.##a|..\\.a#|./a..a|/.a..a";
     private static final String FEWER_BEHIND_2000 = ".a.#.aa|..\\.a#/|a...#a/|..a/a..|#a\\#..a|a#.a...|a\\aaaa#";
@@ -359,6 +362,16 @@ public final class ChoiceEdgesTest {
         Check.same("rows first", Stones.of("a.|a.|a.").fewest(), 1);
     }
 
+    static void promise19The50thIsTheFewest() {
+        Check.same("of 49", fewestOf(FEWEST_IS_50TH, 49), 7);
+        Check.same("fewest()", Stones.of(FEWEST_IS_50TH).fewest(), 6);
+    }
+
+    static void promise19The51stIsNotLookedAt() {
+        Check.same("of 51", fewestOf(FEWEST_IS_51ST, 51), 8);
+        Check.same("fewest()", Stones.of(FEWEST_IS_51ST).fewest(), 9);
+    }
+
     static void promise19FewerBehindThe50th() {
         Check.same("without a limit", fewestOf(FEWER_BEHIND_50, UNBOUNDED), 8);
         Check.same("fewest()", Stones.of(FEWER_BEHIND_50).fewest(), 9);
@@ -522,6 +535,14 @@ public final class ChoiceEdgesTest {
 
     static void promise21RuneBehindABrokenCorner() {
         tells(2.0 / 3.0, "ab#c|....|....", "ab");
+    }
+
+    static void promise21OnlyFromGateZero() {
+        tells(0.5, "ab|#.", "a");
+    }
+
+    static void promise21OnlyFromTheLastGate() {
+        tells(0.5, "b.|a#", "a");
     }
 
     static void promise21RuneThatNoBandEnters() {

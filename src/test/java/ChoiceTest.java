@@ -103,11 +103,12 @@ public final class ChoiceTest {
     }
 
     private static void mostIsKept() {
-        RuneBands stone = Stones.of("a......|.a.....|..a....|...a...|....a..|.....a.|......a");
+        String text = "a......|.a.....|..a....|...a...|....a..|.....a.|......a";
+        RuneBands stone = Stones.of(text);
         for (int most = 1; most <= 50; most++) {
             Check.same("choices(" + most + ")", stone.choices(most), most);
             Check.same("nodes(" + most + ")", stone.nodes(most),
-                oracleOf(Stones.cells(stone)).hunt(most, UNBOUNDED).looked);
+                oracleOf(text).hunt(most, UNBOUNDED).looked);
         }
         Check.same("fewest()", stone.fewest(), 7);
     }

@@ -1,3 +1,5 @@
+import java.util.function.Supplier;
+
 /** Promise 26: the digest, reckoned here from the other answers, as the document tells it. */
 public final class DigestTest {
     public static void main(String[] args) {
@@ -9,19 +11,31 @@ public final class DigestTest {
     }
 
     private static void knownDigests() {
-        RuneBands stone = new RuneBands();
-        Check.same("a new object", stone.digest(), reckoned(stone, 0, 0));
-        Check.same("and the oracle", new Oracle().digest(), stone.digest());
+        Check.same("a new object", new RuneBands().digest(), reckoned(RuneBands::new, 0, 0));
+        Check.same("and the oracle", new Oracle().digest(), new RuneBands().digest());
         Check.same("a stop at the ends of readings", Stones.of("a.c:|d/#a").digest(), -5874956497040010540L);
+        Check.same("four words, four states, one byte", fourWords().digest(), reckoned(DigestTest::fourWords, 1, 4));
+        for (int left = 3; left >= 0; left--) {
+            int states = left;
+            Check.same("states left: " + left, undone(left).digest(), reckoned(() -> undone(states), 9, left));
+        }
+    }
+
+    private static RuneBands fourWords() {
+        RuneBands stone = new RuneBands();
         for (int word = 0; word < 4; word++) {
             Stones.addWord(stone, String.valueOf((char) ('a' + word)));
         }
-        Check.same("four words, four states, one byte", stone.digest(), reckoned(stone, 1, 4));
+        return stone;
+    }
+
+    private static RuneBands undone(int statesLeft) {
+        RuneBands stone = fourWords();
         Stones.write(stone, "zzzzzzzzz");
-        for (int state = 3; state >= 0; state--) {
+        for (int state = 4; state > statesLeft; state--) {
             stone.undo();
-            Check.same("states left: " + state, stone.digest(), reckoned(stone, 9, state));
         }
+        return stone;
     }
 
     private static void fromTheAnswers() {
@@ -30,33 +44,29 @@ public final class DigestTest {
             "/\\/\\/\\A|\\AAAAA\\|/AAAAA/|AAAAAA\\|\\AAAAA/|/AAAAA\\|\\/\\A/\\/",
             "\\aa#a./|a#\\.#.a|#..#a/\\|.a.#.a.|..a..#a|a..#.aa|aaaaaaa"};
         for (String text : stones) {
-            RuneBands stone = Stones.of(text);
-            Check.same("digest of " + text, stone.digest(), reckoned(stone, text.length(), 1));
-            Stones.addWord(stone, "a");
-            Stones.addWord(stone, "abcdefgh");
-            Stones.write(stone, "abc");
-            Check.same("with a list", stone.digest(), reckoned(stone, 3, 3));
+            Check.same("digest of " + text, Stones.of(text).digest(), reckoned(() -> Stones.of(text), text.length(), 1));
+            Check.same("with a list", withList(text).digest(), reckoned(() -> withList(text), 8, 3));
         }
     }
 
-    private static long reckoned(RuneBands stone, int textLength, int saved) {
+    private static RuneBands withList(String text) {
+        return Stones.of(text, "a", "abcdefgh");
+    }
+
+    /** Each cell and each gate is asked of a new object of the same kind: an object answers 512 calls, no more. */
+    private static long reckoned(Supplier<RuneBands> made, int textLength, int saved) {
+        RuneBands stone = made.get();
         long h = 31L * 3499L + textLength;
         for (int what = 0; what <= 9; what++) {
             h = 31 * h + stone.value(what);
         }
-        for (int cell = 0; cell < stone.value(0) * stone.value(1); cell++) {
-            for (int what = 0; what <= 4; what++) {
-                h = 31 * h + stone.cell(cell, what);
-            }
+        int cells = stone.value(0) * stone.value(1);
+        for (int cell = 0; cell < cells; cell++) {
+            h = withCell(h, made.get(), cell);
         }
-        for (int gate = 0; gate < stone.value(6); gate++) {
-            for (int what = 0; what <= 6; what++) {
-                h = 31 * h + stone.band(gate, what);
-            }
-            for (int index = 0; stone.read(gate, index) != RuneBands.NONE; index++) {
-                h = 31 * h + stone.read(gate, index);
-            }
-            h = 31 * h + stone.wordsOf(gate);
+        int gates = stone.value(6);
+        for (int gate = 0; gate < gates; gate++) {
+            h = withGate(h, made.get(), gate);
         }
         for (int word = 0; word < stone.value(9); word++) {
             for (int index = 0; stone.word(word, index) != RuneBands.NONE; index++) {
@@ -65,6 +75,26 @@ public final class DigestTest {
         }
         h = 31 * h + stone.choices(3);
         return 31 * h + saved;
+    }
+
+    private static long withCell(long start, RuneBands stone, int cell) {
+        long h = start;
+        for (int what = 0; what <= 4; what++) {
+            h = 31 * h + stone.cell(cell, what);
+        }
+        return h;
+    }
+
+    private static long withGate(long start, RuneBands stone, int gate) {
+        long h = start;
+        for (int what = 0; what <= 6; what++) {
+            h = 31 * h + stone.band(gate, what);
+        }
+        String reading = Stones.reading(stone, gate);
+        for (int index = 0; index < reading.length(); index++) {
+            h = 31 * h + reading.charAt(index);
+        }
+        return 31 * h + stone.wordsOf(gate);
     }
 
     private static void whatItTells() {

@@ -88,11 +88,11 @@ public final class RandomRunsTest {
     }
 
     private int cellNumber() {
-        return number(0, stone.value(0) * stone.value(1) - 1);
+        return number(0, oracle.value(0) * oracle.value(1) - 1);
     }
 
     private int gate() {
-        return number(0, stone.value(6) - 1);
+        return number(0, oracle.value(6) - 1);
     }
 
     private int cellByte() {
@@ -122,10 +122,10 @@ public final class RandomRunsTest {
         switch (kind) {
             case 0: return new int[] {number(2, 7), number(2, 7)};
             case 1: case 2: case 26: case 27: return new int[] {cellNumber(), cellByte()};
-            case 6: return new int[] {number(0, stone.value(9) - 1), 0};
+            case 6: return new int[] {number(0, oracle.value(9) - 1), 0};
             case 7: return new int[] {cellNumber(), number(0, 4)};
             case 8: return new int[] {number(0, 9), 0};
-            case 9: return new int[] {number(0, stone.value(9) - 1), number(0, 5)};
+            case 9: return new int[] {number(0, oracle.value(9) - 1), number(0, 5)};
             case 10: return new int[] {gate(), number(0, 6)};
             case 11: return new int[] {gate(), number(0, 8)};
             case 12: return new int[] {gate(), number(0, 12)};

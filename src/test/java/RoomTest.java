@@ -1,61 +1,40 @@
 import com.sun.management.ThreadMXBean;
 import java.lang.management.ManagementFactory;
+import java.util.function.Consumer;
 
-/** All calls of a run live in one room: an object is small, and its calls leave nothing behind in memory. */
+/** All calls of a run live in one room of 7.3 million fields and elements: the dearest calls, 512 of them, stay in it. */
 public final class RoomTest {
     private static final String STONE = "AbAbAbA|b\\/#/\\b|AbAbAbA|b#::##b|AbAbAbA|b\\/#/\\b|AbAbAbA";
-    private static final long OBJECT_BYTES = 40_000;
-    private static final long CALL_BYTES = 4_000;
+    private static final long ROOM_BYTES = 4L * 7_300_000L;
+    private static final int CALLS = 512;
 
     public static void main(String[] args) {
-        round(new RuneBands());
-        long empty = allocated();
-        RuneBands stone = new RuneBands();
-        long made = allocated();
-        for (int times = 0; times < 12; times++) {
-            round(stone);
-        }
-        long used = allocated();
-        Check.holds("an object takes " + (made - empty) + " bytes", made - empty < OBJECT_BYTES);
-        Check.holds("its calls take " + (used - made) + " bytes", used - made < CALL_BYTES);
+        takes("digest", RuneBands::digest);
+        takes("repair", RuneBands::repair);
+        takes("fewest", RuneBands::fewest);
+        takes("told", RuneBands::told);
+        takes("read", stone -> stone.read(0, 0));
+        takes("alike", stone -> stone.alike(0));
+        takes("setCell", stone -> stone.setCell(0, 'a'));
+        takes("turnStone", RuneBands::turnStone);
+        takes("parse", RuneBands::parse);
         Check.end();
+    }
+
+    private static void takes(String name, Consumer<RuneBands> call) {
+        call.accept(Stones.of(STONE, "a", "ab"));
+        long before = allocated();
+        RuneBands stone = Stones.of(STONE, "a", "ab");
+        Stones.write(stone, STONE);
+        for (int calls = 2 * STONE.length() + 10; calls <= CALLS; calls++) {
+            call.accept(stone);
+        }
+        long bytes = allocated() - before;
+        Check.holds("a run of " + name + "() takes " + bytes + " bytes", bytes < ROOM_BYTES);
     }
 
     private static long allocated() {
         ThreadMXBean threads = (ThreadMXBean) ManagementFactory.getThreadMXBean();
         return threads.getThreadAllocatedBytes(Thread.currentThread().getId());
-    }
-
-    private static void round(RuneBands stone) {
-        stone.clearText();
-        for (int index = 0; index < STONE.length(); index++) {
-            stone.append(STONE.charAt(index));
-        }
-        stone.parse();
-        stone.clearText();
-        stone.append('a');
-        stone.addWord();
-        stone.turnStone();
-        stone.turnCorners();
-        stone.setCell(24, '#');
-        stone.cell(3, 1);
-        stone.value(8);
-        stone.word(0, 0);
-        stone.band(3, 6);
-        stone.cellOf(3, 0);
-        stone.read(3, 4);
-        stone.wordsOf(5);
-        stone.alike(6);
-        stone.choices(50);
-        stone.nodes(50);
-        stone.chosen(0);
-        stone.fewest();
-        stone.repair();
-        stone.told();
-        stone.digest();
-        stone.removeWord(0);
-        stone.undo();
-        stone.removeWord(0);
-        stone.setSize(4, 4);
     }
 }

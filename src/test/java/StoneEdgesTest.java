@@ -393,6 +393,13 @@ public final class StoneEdgesTest {
         Check.sameText("cells", Stones.cells(stone), "a/\\|#\\:");
     }
 
+    static void promise4BandsFollow() {
+        RuneBands stone = Stones.of("/.|..");
+        stone.turnCorners();
+        Check.same("band(0, 1)", stone.band(0, 1), 2);
+        Check.same("band(0, 3)", stone.band(0, 3), 2);
+    }
+
     // ---- promise 5: turnStone
 
     private static void turned(String before, String after, int gates) {
@@ -452,6 +459,13 @@ public final class StoneEdgesTest {
         stone.undo();
         Check.sameText("cells", Stones.cells(stone), "ab.....|......c");
         Check.same("width", stone.value(0), 7);
+    }
+
+    static void promise5BandsFollow() {
+        RuneBands stone = Stones.of("#..|...");
+        stone.turnStone();
+        Check.same("band(0, 3)", stone.band(0, 3), 3);
+        Check.same("band(1, 1)", stone.band(1, 1), RuneBands.NONE);
     }
 
     // ---- promise 8: cell

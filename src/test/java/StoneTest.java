@@ -101,7 +101,7 @@ public final class StoneTest {
                 || value == '.' || value == '/' || value == '\\' || value == '#' || value == ':';
             fitting += fits ? 1 : 0;
             if (!fits) {
-                Check.sameText("setCell(0, " + value + ")", Check.thrown(() -> stone.setCell(0, given)),
+                Check.sameText("setCell(0, " + value + ")", Check.thrown(() -> new RuneBands().setCell(0, given)),
                     "java.lang.IllegalArgumentException");
             }
         }

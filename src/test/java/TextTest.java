@@ -70,9 +70,10 @@ public final class TextTest {
             "aaaaaaa|bbbbbbb|ccccccc|ddddddd|eeeeeee|fffffff|ggggggg", "/\\|\\/|##"};
         int[] runes = {0, 4, 2, 0, 49, 0};
         for (int index = 0; index < texts.length; index++) {
-            Check.same("parse " + texts[index], parse(stone, texts[index]), runes[index]);
-            Check.sameText("its cells", Stones.cells(stone), texts[index]);
-            Check.same("the text stays", stone.clearText(), texts[index].length());
+            RuneBands other = new RuneBands();
+            Check.same("parse " + texts[index], parse(other, texts[index]), runes[index]);
+            Check.sameText("its cells", Stones.cells(other), texts[index]);
+            Check.same("the text stays", other.clearText(), texts[index].length());
         }
         Check.same("width", parse(stone, "...|..."), 0);
         Check.same("width", stone.value(0), 3);

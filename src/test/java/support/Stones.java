@@ -35,8 +35,10 @@ final class Stones {
     /** The cells, row by row, as a text would have them. */
     static String cells(RuneBands stone) {
         StringBuilder text = new StringBuilder();
-        for (int cell = 0; cell < stone.value(0) * stone.value(1); cell++) {
-            if (cell > 0 && cell % stone.value(0) == 0) {
+        int width = stone.value(0);
+        int cells = width * stone.value(1);
+        for (int cell = 0; cell < cells; cell++) {
+            if (cell > 0 && cell % width == 0) {
                 text.append('|');
             }
             text.append((char) stone.cell(cell, 0));
@@ -46,8 +48,8 @@ final class Stones {
 
     static String reading(RuneBands stone, int gate) {
         StringBuilder text = new StringBuilder();
-        for (int index = 0; stone.read(gate, index) != RuneBands.NONE; index++) {
-            text.append((char) stone.read(gate, index));
+        for (int value = stone.read(gate, 0); value != RuneBands.NONE; value = stone.read(gate, text.length())) {
+            text.append((char) value);
         }
         return text.toString();
     }
