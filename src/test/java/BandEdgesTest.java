@@ -235,6 +235,14 @@ public final class BandEdgesTest {
         gateIsTheLast(".......|.......|.......|.......|.......|.......|.......");
     }
 
+    /** The band of the largest stone's last gate, 27, goes round four corners and crosses itself in cell 37. */
+    static void promise11GateLargestOfTheLargestStoneEachFact() {
+        String text = ".......|.......|.......|.......|/.\\....|\\.a....|../....";
+        facts(text, 27, 12, 12, 41, 14, 4, 2, 1);
+        facts(text, 12, 12, 27, 42, 14, 4, 2, 1);
+        Check.sameText("the path", Stones.path(Stones.of(text), 27), "42 43 44 37 30 29 28 35 36 37 38 39 40 41");
+    }
+
     static void promise11GateLargestOfTheWidestAndLowest() {
         gateIsTheLast(".......|.......");
     }

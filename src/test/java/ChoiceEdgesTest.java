@@ -14,8 +14,9 @@ public final class ChoiceEdgesTest {
     private static final String ALL_2001 = ".a\\aa/a|a##.###|/#..a..|.a/#..a|..a#.a.|a.a#a.a|aa.aaa\\";
     private static final String FIFTIETH_2000 = "a#a/\\a.|.a#..#a|...a#\\#|./..\\a.|..a.#.a|.a\\.\\a.|a..aaaa";
     private static final String FIFTIETH_2001 = "a/aa/a/|\\#\\###a|a/./\\.#|..a..#a|\\/..#a.|a/.aa..|aaa..aa";
-    /** The first choice is node 2000; it is far behind it. */
+    /** The first choice is node 2000; it is node 2001; it is far behind it. */
     private static final String FIRST_2000 = "..a\\a..|.a..#a.|..\\a##a|..a.#./|a.#..\\a|#a..\\a.|a#aaaa#";
+    private static final String FIRST_2001 = ".a.#a..|\\..a#a.|....##a|..a.#a.|a.#.a..|#a...\\.|a#aaaa#";
     private static final String FIRST_BEHIND = "..a#a..|.\\.a#a.|.a..\\#a|a...#a.|##a..\\.|a#..a..|.a#aaa#";
     /** The 50th choice has the fewest bands so far; the 51st has. */
     private static final String FEWEST_IS_50TH = "aa.....|#.aa...|\\#..a..|a..#\\..|/.#aa..|..../..|aaa...#";
@@ -23,9 +24,13 @@ public final class ChoiceEdgesTest {
     /** Fewer bands would do, but only behind the 50th choice; but only behind the 2000th node. */
     private static final String FEWER_BEHIND_50 = ".a.a..|#...a.|a#...a|.a.##a|..\\.a#|./a..a|/.a..a";
     private static final String FEWER_BEHIND_2000 = ".a.#.aa|..\\.a#/|a...#a/|..a/a..|#a\\#..a|a#.a...|a\\aaaa#";
-    /** The first broken corner as "/": a choice is found at node 2000; only behind it, but as "\" in time. */
+    /**
+     * The first broken corner as "/": a choice is found at node 2000; only behind it, but as "\" in time; at node 2001
+     * exactly, as "\" too, so that it will not do. (The second will not, either; the third will.)
+     */
     private static final String REPAIR_2000 = "..a\\a.#|.a..#a.|..\\a##a|..a.#./|a.#..\\a|#a..\\a.|a#aaaa#";
     private static final String REPAIR_BEHIND = "..a\\a.#|.a..#a.|..\\a##a|..a.#./|a.#.a\\a|#a..\\a.|a#aaaa#";
+    private static final String REPAIR_2001 = "a#...a.|.#a\\a#a|.a\\.##/|\\\\...\\a|a.#.a\\.|#a...\\.|a#aaaa#";
 
     public static void main(String[] args) throws IllegalAccessException {
         Cases.run(ChoiceEdgesTest.class);
@@ -62,6 +67,12 @@ public final class ChoiceEdgesTest {
     /** Rune 3 is also on band 0, which does not cross itself. */
     static void termsRuneOfABandThatCrossesItselfMayBeReadByAnother() {
         finds("./\\|a./|...", 1, 2, 1, "0");
+    }
+
+    /** Band 0 goes down through the rune and crosses itself in cell 9; band 4 goes straight along the first row. */
+    static void termsBandThatCrossesItselfBehindTheFirstCellIsInNoChoice() {
+        Check.same("band(0, 6)", Stones.of("a...|./\\.|\\./.|....").band(0, 6), 1);
+        finds("a...|./\\.|\\./.|....", 1, 2, 1, "4");
     }
 
     static void termsBandThatCrossesItselfInACornerIsInNoChoice() {
@@ -182,6 +193,11 @@ public final class ChoiceEdgesTest {
         Check.same("the 50th", Stones.of(FIFTIETH_2001).choices(50), 49);
     }
 
+    static void promise16NotFoundAtNode2001() {
+        Check.same("choices(1)", Stones.of(FIRST_2001).choices(1), 0);
+        Check.same("choices(50)", Stones.of(FIRST_2001).choices(50), 0);
+    }
+
     // ---- promise 17: nodes
 
     static void promise17MostOneTooSmall() {
@@ -248,6 +264,13 @@ public final class ChoiceEdgesTest {
     static void promise17LastChoiceIsNode2001() {
         Check.same("without a limit", unbounded(FIFTIETH_2001, 50).looked, 2001);
         Check.same("nodes(50)", Stones.of(FIFTIETH_2001).nodes(50), -2000);
+    }
+
+    static void promise17FirstChoiceIsNode2001() {
+        Check.same("without a limit", unbounded(FIRST_2001, 1).looked, 2001);
+        Check.same("and found", unbounded(FIRST_2001, 1).found.size(), 1);
+        Check.same("nodes(1)", Stones.of(FIRST_2001).nodes(1), -2000);
+        Check.same("nodes(50)", Stones.of(FIRST_2001).nodes(50), -2000);
     }
 
     static void promise17NodeLimitOfAnEarlierSearchIsForgotten() {
@@ -331,6 +354,10 @@ public final class ChoiceEdgesTest {
         Check.sameText("chosen()", Stones.chosen(stone), due.toString());
     }
 
+    static void promise18NotFoundAtNode2001() {
+        Check.same("chosen(0)", Stones.of(FIRST_2001).chosen(0), RuneBands.NONE);
+    }
+
     static void promise18NotFoundBehindNode2000() {
         Check.holds("without a limit", unbounded(FIRST_BEHIND, 1).looked > 2000);
         Check.same("and found", unbounded(FIRST_BEHIND, 1).found.size(), 1);
@@ -388,6 +415,10 @@ public final class ChoiceEdgesTest {
             fewest = Math.min(fewest, choice.size());
         }
         return fewest;
+    }
+
+    static void promise19NotFoundAtNode2001() {
+        Check.same("fewest()", Stones.of(FIRST_2001).fewest(), RuneBands.NONE);
     }
 
     static void promise19NotFoundBehindNode2000() {
@@ -458,6 +489,15 @@ public final class ChoiceEdgesTest {
         String mended = REPAIR_2000.replaceFirst("#", "/");
         Check.same("without a limit", unbounded(mended, 1).looked, 2000);
         Check.same("repair()", Stones.of(REPAIR_2000).repair(), 12);
+    }
+
+    static void promise20ChoiceAtNode2001() {
+        for (String corner : new String[] {"/", "\\\\"}) {
+            String mended = REPAIR_2001.replaceFirst("#", corner);
+            Check.same("without a limit", unbounded(mended, 1).looked, 2001);
+            Check.same("and found", unbounded(mended, 1).found.size(), 1);
+        }
+        Check.same("repair()", Stones.of(REPAIR_2001).repair(), 24);
     }
 
     static void promise20ChoiceBehindNode2000() {
