@@ -12,7 +12,6 @@ import java.util.List;
 import java.util.regex.Matcher;
 import java.util.regex.Pattern;
 import java.util.stream.Stream;
-import javax.tools.ToolProvider;
 
 /** README.md: its examples answer what stands behind them, its tables have each call and each test. */
 public final class ReadmeTest {
@@ -71,8 +70,8 @@ public final class ReadmeTest {
         try {
             Path program = folder.resolve("Examples.java");
             Files.write(program, programOf(lines));
-            int compiled = ToolProvider.getSystemJavaCompiler().run(null, null, null, "-cp",
-                System.getProperty("java.class.path"), "-d", folder.toString(), program.toString());
+            int compiled = new ProcessBuilder("javac", "-encoding", "UTF-8", "-cp", System.getProperty("java.class.path"),
+                "-d", folder.toString(), program.toString()).inheritIO().start().waitFor();
             Check.same("the compiler's exit code", compiled, 0);
             if (compiled == 0) {
                 runFrom(folder);
